@@ -1,0 +1,108 @@
+import java.io.IOException;
+import java.lang.reflect.Constructor;
+import java.lang.reflect.Field;
+import java.lang.reflect.Method;
+import java.lang.reflect.Modifier;
+import java.nio.file.Files;
+import java.nio.file.Path;
+import java.util.HashSet;
+import java.util.List;
+import java.util.Set;
+import java.util.TreeSet;
+import java.util.regex.Matcher;
+import java.util.regex.Pattern;
+
+// The public face, and those rules of LANGUAGE.md that can be seen without reading the program.
+public final class FaceTest {
+    private static final Set<String> FACE = new TreeSet<>(List.of(
+        "int BAD_ARG", "int FULL", "int OFF", "int NONE", "OpenTricks()",
+        "int deal(int,int)", "void clear()", "int hand(int)", "int start(int,int)", "int toPlay()",
+        "int legal()", "int play(int)", "int undo()", "int won(int)", "int winning()", "int value()",
+        "int after(int)", "int best()", "int least()", "int courses()"));
+
+    private static int wrong = 0;
+
+    private static void must(boolean holds, String rule) {
+        if (!holds) {
+            wrong++;
+            System.out.println("not so: " + rule);
+        }
+    }
+
+    private static String parameters(Class<?>[] types) {
+        StringBuilder told = new StringBuilder();
+        for (Class<?> type : types) {
+            told.append(told.length() == 0 ? "" : ",").append(type.getName());
+        }
+        return "(" + told + ")";
+    }
+
+    private static void members() {
+        Class<?> face = OpenTricks.class;
+        Set<String> open = new TreeSet<>();
+        Set<String> openNames = new HashSet<>();
+        Set<String> privateNames = new HashSet<>();
+        int fields = 0;
+        for (Field f : face.getDeclaredFields()) {
+            boolean constant = Modifier.isStatic(f.getModifiers()) && Modifier.isFinal(f.getModifiers());
+            if (Modifier.isPublic(f.getModifiers())) {
+                open.add(f.getType().getName() + " " + f.getName());
+                must(constant, f.getName() + " is static and final");
+            } else {
+                must(Modifier.isPrivate(f.getModifiers()), "rule 1: " + f.getName() + " is private");
+            }
+            if (Modifier.isStatic(f.getModifiers())) {
+                must(constant && f.getType().isPrimitive(), "rule 5: " + f.getName() + " is a constant");
+            } else {
+                fields++;
+                Class<?> type = f.getType().isArray() ? f.getType().getComponentType() : f.getType();
+                must(type.isPrimitive(), "rule 2: the type of " + f.getName());
+            }
+        }
+        for (Constructor<?> c : face.getDeclaredConstructors()) {
+            must(Modifier.isPublic(c.getModifiers()), "the constructor is public");
+            open.add("OpenTricks" + parameters(c.getParameterTypes()));
+        }
+        for (Method m : face.getDeclaredMethods()) {
+            must(m.getParameterCount() <= 7, "rule 10: parameters of " + m.getName());
+            must(!m.getReturnType().isArray(), "rule 4: " + m.getName() + " answers no array");
+            if (Modifier.isPublic(m.getModifiers())) {
+                must(!Modifier.isStatic(m.getModifiers()), m.getName() + " is not static");
+                open.add(m.getReturnType().getName() + " " + m.getName() + parameters(m.getParameterTypes()));
+                openNames.add(m.getName());
+            } else {
+                must(Modifier.isPrivate(m.getModifiers()), "rule 1: " + m.getName() + " is private");
+                privateNames.add(m.getName());
+            }
+        }
+        must(open.equals(FACE), "the public members are those of the document; they are " + open);
+        privateNames.retainAll(openNames);
+        must(privateNames.isEmpty(), "rule 1: private methods with names of their own, not " + privateNames);
+        must(Modifier.isFinal(face.getModifiers()) && Modifier.isPublic(face.getModifiers()), "public and final");
+        must(face.getDeclaredClasses().length == 0, "rule 1: no nested class");
+        must(fields <= 40, "rule 10: at most forty fields");
+    }
+
+    private static void words() throws IOException {
+        String text = Files.readString(Path.of("src/main/java/OpenTricks.java"));
+        String code = text.replaceAll("(?s)/\\*.*?\\*/", " ").replaceAll("//[^\n]*", " ");
+        Matcher found = Pattern.compile("\\b(package|import|float|double|String|Math|Integer|System|Arrays|null|throw"
+            + "|throws|try|catch|synchronized|assert|instanceof|protected|interface|enum|record)\\b|->|::|\"").matcher(code);
+        while (found.find()) {
+            must(false, "rules 2, 3, 6: without " + found.group());
+        }
+        Matcher made = Pattern.compile("(?m)^(.*)\\bnew\\b.*$").matcher(code);
+        while (made.find()) {
+            must(made.group(1).matches(" {4}private final \\w+\\[\\] \\w+ = "), "rule 4: arrays made in fields: " + made.group());
+        }
+    }
+
+    public static void main(String[] args) throws IOException {
+        members();
+        words();
+        System.out.println(wrong == 0 ? "the face is as due" : wrong + " rules are broken");
+        if (wrong != 0) {
+            System.exit(1);
+        }
+    }
+}
