@@ -12,6 +12,10 @@ public final class OpenTricks {
     private static final int SIDES = 2;
     private static final int HAND_MOST = 3;
 
+    // Before the first card there is a situation too, and after the last trick a winner.
+    private static final int SITUATIONS = CARDS + 1;
+    private static final int LEADS = HAND_MOST + 1;
+
     // Three cards each can be ordered in at most 6 * 6 * 6 * 6 ways, so a search
     // takes some sixteen thousand steps at most.
     private static final int STEPS_MOST = 1000000;
@@ -28,14 +32,14 @@ public final class OpenTricks {
 
     // Who leads each trick. The winner of a trick leads the next one, so this
     // also tells who won, and taking a card back needs no counts mended.
-    private final int[] leaders = new int[HAND_MOST + 1];
+    private final int[] leaders = new int[LEADS];
 
     // The search keeps one row for each number of cards played.
-    private final int[] untried = new int[CARDS + 1];
-    private final int[] values = new int[CARDS + 1];
-    private final int[] choices = new int[CARDS + 1];
-    private final int[] leasts = new int[CARDS + 1];
-    private final int[] ways = new int[CARDS + 1];
+    private final int[] untried = new int[SITUATIONS];
+    private final int[] values = new int[SITUATIONS];
+    private final int[] choices = new int[SITUATIONS];
+    private final int[] leasts = new int[SITUATIONS];
+    private final int[] ways = new int[SITUATIONS];
 
     public OpenTricks() {
     }

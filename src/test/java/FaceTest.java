@@ -91,9 +91,10 @@ public final class FaceTest {
         while (found.find()) {
             must(false, "rules 2, 3, 6: without " + found.group());
         }
-        Matcher made = Pattern.compile("(?m)^(.*)\\bnew\\b.*$").matcher(code);
+        Matcher made = Pattern.compile("(?m)^.*\\bnew\\b.*$").matcher(code);
         while (made.find()) {
-            must(made.group(1).matches(" {4}private final \\w+\\[\\] \\w+ = "), "rule 4: arrays made in fields: " + made.group());
+            boolean inField = made.group().matches(" {4}private final \\w+\\[\\] \\w+ = new \\w+\\[(\\d+|[A-Z_]+)\\];");
+            must(inField, "rule 4: arrays are made in fields, their length a literal or a constant: " + made.group());
         }
     }
 
